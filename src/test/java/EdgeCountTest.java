@@ -5,6 +5,7 @@ public final class EdgeCountTest {
     public static void main(String[] args) {
         promise15Edge();
         promise16Count();
+        greatestDepthAtBlock0();
         deepestNest();
         Check.finish();
     }
@@ -54,6 +55,15 @@ public final class EdgeCountTest {
         for (int what = 0; what < 7; what++) {
             Check.due("count(" + what + ") after a cut", later[what], x.count(what));
         }
+    }
+
+    private static void greatestDepthAtBlock0() {
+        BlockRuler x = Check.graph(2, 0, 0, 0, 1);
+        Check.due("greatest depth", 1, x.count(6));
+        Check.due("heads", 1, x.count(3));
+        x.cut(0, 0);
+        Check.due("greatest depth without a loop", 0, x.count(6));
+        Check.due("heads without a loop", 0, x.count(3));
     }
 
     /** Each block is the head of a loop that ends with the last block: 64 loops, one in another. */

@@ -9,6 +9,7 @@ public final class LoopTest {
         innermost();
         selfLoopTakesNoMore();
         loopsWithOneHead();
+        loopOfAll();
         Check.finish();
     }
 
@@ -104,6 +105,25 @@ public final class LoopTest {
         x.way(3, 0);
         Check.due("loop of 0 from 3", "0 3", Check.loopOf(x, 0));
         Check.due("depth of 0", 1, x.look(0, 3));
+        Check.due("innermost of 3", 0, x.look(3, 4));
+        x.cut(3, 1);
+        x.cut(0, 2);
+        Check.due("loop of 0 when its ways back are cut", "", Check.loopOf(x, 0));
+        Check.due("depth of 0 then", 0, x.look(0, 3));
+    }
+
+    private static void loopOfAll() {
+        BlockRuler x = Check.graph(64);
+        for (int b = 0; b < 64; b++) {
+            x.way(b, (b + 1) % 64);
+        }
+        Check.due("blocks of the loop", 64, x.look(0, 2));
+        Check.due("innermost of 0", 0, x.look(0, 4));
+        Check.due("innermost of 63", 0, x.look(63, 4));
+        Check.due("greatest depth", 1, x.count(6));
+        x.turn(63, 0, 63);
+        Check.due("innermost of 63 turned to itself", 63, x.look(63, 4));
+        Check.due("innermost of 0 then", -1, x.look(0, 4));
     }
 
     private static void loopsWithOneHead() {

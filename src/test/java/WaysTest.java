@@ -80,6 +80,13 @@ public final class WaysTest {
             Check.due("end of way " + i, (i * 7 + 5) % 64, x.end(i / 8, i % 8));
         }
         Check.due("all ways", 512, x.count(1));
+        Check.due("all reached", 64, x.count(2));
+        Check.due("order of 0, left last", 0, x.order(0));
+        Check.due("parent(0) with all reached", -1, x.parent(0));
+        for (int k = 7; k >= 0; k--) {
+            Check.due("cut the first of the last block", (63 * 56 + (7 - k) * 7 + 5) % 64, x.cut(63, 0));
+            Check.due("ways of the last block", k, x.look(63, 0));
+        }
     }
 
     private static void promise4Cut() {
