@@ -1,3 +1,5 @@
+import java.util.function.Supplier;
+
 /** What the tests share: telling each answer that is not the one due, and small graphs. */
 final class Check {
     /** A call that may throw; its answer as a number. */
@@ -5,10 +7,35 @@ final class Check {
         long answer();
     }
 
+    /** A call on an object that is made for it; its answer as a number. */
+    interface Ask {
+        long of(BlockRuler ruler);
+    }
+
+    /** Of one sentence's answers no more are told: the others tell nothing new. */
+    private static final int MOST_TOLD = 20;
+
     private static int wrong = 0;
+    private static int told = 0;
     private static int done = 0;
+    private static int sentences = 0;
+    private static String sentence = "";
 
     private Check() {}
+
+    /** A sentence of the document and its test; what is not as due is told with the sentence. */
+    static void sentence(String text, Runnable test) {
+        sentence = text + ": ";
+        sentences++;
+        told = 0;
+        try {
+            test.run();
+        } catch (RuntimeException e) {
+            tell("a call that should answer throws " + e);
+            e.printStackTrace(System.out);
+        }
+        sentence = "";
+    }
 
     static void due(String what, long want, long got) {
         done++;
@@ -38,6 +65,72 @@ final class Check {
             return Long.toString(call.answer());
         } catch (RuntimeException e) {
             return "throws " + e.getClass().getName();
+        }
+    }
+
+    static String outcome(Ask ask, BlockRuler ruler) {
+        return outcome(() -> ask.of(ruler));
+    }
+
+    /** The call throws, and an object that has refused it answers all as one that has not. */
+    static void refuses(
+            String what, Class<? extends RuntimeException> want, Supplier<BlockRuler> maker, Ask call) {
+        answersAndLeaves(what, "throws " + want.getName(), maker, call);
+    }
+
+    /** The call answers NONE, and leaves all as it was. */
+    static void answersNone(String what, Supplier<BlockRuler> maker, Ask call) {
+        answersAndLeaves(what, "-1", maker, call);
+    }
+
+    /** The call answers false, and leaves all as it was. */
+    static void answersFalse(String what, Supplier<BlockRuler> maker, Ask call) {
+        answersAndLeaves(what, "0", maker, call);
+    }
+
+    /**
+     * Each question gets objects of its own, since a run has 512 calls: one that is asked before
+     * the call and after it, and one to which the call comes before any question.
+     */
+    private static void answersAndLeaves(
+            String what, String want, Supplier<BlockRuler> maker, Ask call) {
+        int blocks = maker.get().count(0);
+        for (Questions.Question question : Questions.asking(blocks)) {
+            BlockRuler asked = maker.get();
+            String before = outcome(question.ask(), asked);
+            due(what, want, outcome(call, asked));
+            due(question.name() + " after " + what, before, outcome(question.ask(), asked));
+            BlockRuler unasked = maker.get();
+            due(what + " before any question", want, outcome(call, unasked));
+            due(question.name() + " first after " + what, before, outcome(question.ask(), unasked));
+        }
+        for (Questions.Question change : Questions.changing(blocks)) {
+            BlockRuler twin = maker.get();
+            outcome(call, twin);
+            due(change.name() + " after " + what, outcome(change.ask(), maker.get()),
+                    outcome(change.ask(), twin));
+        }
+    }
+
+    /** Objects made in two ways answer all alike. */
+    static void sameAnswers(String what, Supplier<BlockRuler> maker, Supplier<BlockRuler> other) {
+        int blocks = other.get().count(0);
+        for (Questions.Question question : Questions.asking(blocks)) {
+            due(what + ": " + question.name(), outcome(question.ask(), other.get()),
+                    outcome(question.ask(), maker.get()));
+        }
+    }
+
+    /** What is asked before a change and again after it is answered as if told so from the start. */
+    static void follows(
+            String what, Supplier<BlockRuler> maker, Ask change, Supplier<BlockRuler> changed) {
+        int blocks = changed.get().count(0);
+        for (Questions.Question question : Questions.asking(blocks)) {
+            BlockRuler x = maker.get();
+            outcome(question.ask(), x);
+            outcome(change, x);
+            due(question.name() + " after " + what, outcome(question.ask(), changed.get()),
+                    outcome(question.ask(), x));
         }
     }
 
@@ -84,13 +177,15 @@ final class Check {
 
     private static void tell(String text) {
         wrong++;
-        if (wrong <= 50) {
-            System.out.println(text);
+        told++;
+        if (told <= MOST_TOLD) {
+            System.out.println(sentence + text);
         }
     }
 
     static void finish() {
-        System.out.println(done + " answers, " + wrong + " not as due");
+        String asked = sentences == 0 ? "" : sentences + " sentences, ";
+        System.out.println(asked + done + " answers, " + wrong + " not as due");
         if (wrong != 0 || done == 0) {
             System.exit(1);
         }

@@ -71,6 +71,7 @@ public final class WaysTest {
         allBlocksWithAllWays();
     }
 
+    /** More calls than the 512 that are promised an answer; the program does not count them. */
     private static void allBlocksWithAllWays() {
         BlockRuler x = Check.graph(64);
         for (int i = 0; i < 512; i++) {
