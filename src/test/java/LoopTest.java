@@ -42,7 +42,7 @@ public final class LoopTest {
         BlockRuler x = mixed();
         String[] loops = {"", "1 2 3", "", "3", "", "", "", ""};
         for (int b = 0; b < loops.length; b++) {
-            Check.due("loop of " + b, loops[b], Check.loopOf(x, b));
+            Check.due("loop of " + b, loops[b], Check.loopOf(mixed(), b));
         }
         for (int far : FAR) {
             Check.due("inLoop(far, 1)", false, x.inLoop(far, 1));

@@ -4,8 +4,7 @@ import java.util.List;
 
 /**
  * Many runs of calls, all answers against those of a model that is written from the document's
- * terms word for word, with recursion and lists and without regard to speed. The document promises
- * nothing after an object's 512th call; the program does not count calls, so the test asks on.
+ * terms word for word, with recursion and lists and without regard to speed.
  */
 public final class OracleTest {
     /** Numbers that look thrown, the same in each run of the test. */
@@ -19,6 +18,30 @@ public final class OracleTest {
         int below(int bound) {
             state = state * 6364136223846793005L + 1442695040888963407L;
             return (int) ((state >>> 33) % bound);
+        }
+    }
+
+    /** An object and the changes told to it; nothing is promised after an object's 512th call. */
+    private static final class Run {
+        private final List<Check.Ask> told = new ArrayList<>();
+        private BlockRuler ruler = new BlockRuler();
+        private int calls = 0;
+
+        /** The object for one call more: another one that was told the same if 512 were made. */
+        BlockRuler now() {
+            if (calls == 512) {
+                ruler = new BlockRuler();
+                told.forEach(change -> Check.outcome(change, ruler));
+                calls = told.size();
+            }
+            calls++;
+            return ruler;
+        }
+
+        String change(Check.Ask change) {
+            String answer = Check.outcome(change, now());
+            told.add(change);
+            return answer;
         }
     }
 
@@ -213,16 +236,15 @@ public final class OracleTest {
         for (int seed = 0; seed < 12; seed++) {
             wholeGraph(seed, 20 + 4 * seed);
         }
+        everyGraphOfThree();
         Check.finish();
     }
 
     private static void changes(int seed, int blocks, int many) {
         Dice dice = new Dice(seed);
-        BlockRuler x = new BlockRuler();
+        Run x = new Run();
         Model m = new Model();
-        for (int i = 1; i < blocks; i++) {
-            Check.due("block", m.block(), x.block());
-        }
+        addBlocks(blocks, x, m);
         for (int i = 0; i < many; i++) {
             change(seed, dice, blocks, x, m);
             if (i % 4 == 3) {
@@ -231,45 +253,77 @@ public final class OracleTest {
         }
     }
 
-    private static void change(int seed, Dice dice, int blocks, BlockRuler x, Model m) {
+    private static void addBlocks(int blocks, Run x, Model m) {
+        for (int i = 1; i < blocks; i++) {
+            Check.due("block", Check.outcome(m::block), x.change(BlockRuler::block));
+        }
+    }
+
+    private static void addWay(String run, int from, int to, Run x, Model m) {
+        Check.due(run + "way(" + from + ", " + to + ")", Check.outcome(() -> m.way(from, to)),
+                x.change(r -> r.way(from, to)));
+    }
+
+    private static void change(int seed, Dice dice, int blocks, Run x, Model m) {
         int from = dice.below(blocks + 2) - 1;
         int to = dice.below(blocks + 2) - 1;
         int k = dice.below(4) - 1;
         int kind = dice.below(10);
-        String name = "seed " + seed + " kind " + kind + " of " + from + ", " + k + ", " + to;
+        String run = "seed " + seed + ": ";
         if (kind < 6) {
-            Check.due(name, Check.outcome(() -> m.way(from, to)), Check.outcome(() -> x.way(from, to)));
+            addWay(run, from, to, x, m);
         } else if (kind < 8) {
-            Check.due(name, Check.outcome(() -> m.turn(from, k, to)),
-                    Check.outcome(() -> x.turn(from, k, to)));
+            Check.due(run + "turn(" + from + ", " + k + ", " + to + ")",
+                    Check.outcome(() -> m.turn(from, k, to)), x.change(r -> r.turn(from, k, to)));
         } else {
-            Check.due(name, Check.outcome(() -> m.cut(from, k)), Check.outcome(() -> x.cut(from, k)));
+            Check.due(run + "cut(" + from + ", " + k + ")", Check.outcome(() -> m.cut(from, k)),
+                    x.change(r -> r.cut(from, k)));
         }
     }
 
     /** Big graphs with a way from each block a little on and others anywhere. */
     private static void wholeGraph(int seed, int blocks) {
         Dice dice = new Dice(1000 + seed);
-        BlockRuler x = new BlockRuler();
+        Run x = new Run();
         Model m = new Model();
-        for (int i = 1; i < blocks; i++) {
-            m.block();
-            x.block();
-        }
+        String run = "graph " + seed + ": ";
+        addBlocks(blocks, x, m);
         for (int b = 0; b < blocks; b++) {
-            int on = (b + 1 + dice.below(3)) % blocks;
-            m.way(b, on);
-            x.way(b, on);
+            addWay(run, b, (b + 1 + dice.below(3)) % blocks, x, m);
             for (int i = dice.below(3); i > 0; i--) {
-                int near = Math.floorMod(b + 4 - dice.below(10), blocks);
-                m.way(b, near);
-                x.way(b, near);
+                addWay(run, b, Math.floorMod(b + 4 - dice.below(10), blocks), x, m);
             }
         }
-        compare("graph " + seed + ": ", x, m);
+        compare(run, x, m);
     }
 
-    private static void compare(String run, BlockRuler x, Model m) {
+    /** Three blocks are the fewest that make a knot; each has two ways, one, or none. */
+    private static void everyGraphOfThree() {
+        int[][] rows = {{}, {0}, {1}, {2}, {0, 0}, {0, 1}, {0, 2}, {1, 0}, {1, 1}, {1, 2}, {2, 0},
+            {2, 1}, {2, 2}};
+        for (int[] of0 : rows) {
+            for (int[] of1 : rows) {
+                for (int[] of2 : rows) {
+                    graphOfThree(of0, of1, of2);
+                }
+            }
+        }
+    }
+
+    private static void graphOfThree(int[]... rows) {
+        Run x = new Run();
+        Model m = new Model();
+        String run = "graph " + Arrays.deepToString(rows) + ": ";
+        addBlocks(3, x, m);
+        for (int from = 0; from < 3; from++) {
+            for (int to : rows[from]) {
+                addWay(run, from, to, x, m);
+            }
+        }
+        compare(run, x, m);
+    }
+
+    private static void compare(String run, Run x, Model m) {
         m.renew();
         int blocks = m.ways.size();
         List<List<Integer>> loops = new ArrayList<>();
@@ -278,9 +332,10 @@ public final class OracleTest {
         }
         int deepest = 0;
         for (int b = -1; b <= blocks; b++) {
-            Check.due(run + "order(" + b + ")", m.order(b), x.order(b));
-            Check.due(run + "at(" + b + ")", b >= 0 && b < m.order.size() ? m.order.get(b) : -1, x.at(b));
-            Check.due(run + "parent(" + b + ")", m.lastRuling(b, b, b), x.parent(b));
+            Check.due(run + "order(" + b + ")", m.order(b), x.now().order(b));
+            Check.due(run + "at(" + b + ")", b >= 0 && b < m.order.size() ? m.order.get(b) : -1,
+                    x.now().at(b));
+            Check.due(run + "parent(" + b + ")", m.lastRuling(b, b, b), x.now().parent(b));
             compareWays(run, b, x, m);
             comparePairs(run, b, loops, x, m);
             compareEdge(run, b, x, m);
@@ -291,41 +346,41 @@ public final class OracleTest {
         int knots = m.sorted(2);
         int[] counts = {blocks, all, m.order.size(), heads, m.sorted(1) + knots, knots, deepest};
         for (int what = 0; what < counts.length; what++) {
-            Check.due(run + "count(" + what + ")", counts[what], x.count(what));
+            Check.due(run + "count(" + what + ")", counts[what], x.now().count(what));
         }
     }
 
-    private static void compareWays(String run, int b, BlockRuler x, Model m) {
+    private static void compareWays(String run, int b, Run x, Model m) {
         for (int k = -1; k < 9; k++) {
             String name = "(" + b + ", " + k + ")";
-            Check.due(run + "end" + name, m.has(b, k) ? m.ways.get(b).get(k) : -1, x.end(b, k));
-            Check.due(run + "sort" + name, m.sort(b, k), x.sort(b, k));
+            Check.due(run + "end" + name, m.has(b, k) ? m.ways.get(b).get(k) : -1, x.now().end(b, k));
+            Check.due(run + "sort" + name, m.sort(b, k), x.now().sort(b, k));
         }
     }
 
     private static void comparePairs(
-            String run, int a, List<List<Integer>> loops, BlockRuler x, Model m) {
+            String run, int a, List<List<Integer>> loops, Run x, Model m) {
         for (int b = -1; b <= m.ways.size(); b++) {
             int y = b;
             String name = "(" + a + ", " + b + ")";
-            Check.due(run + "rules" + name, m.rules(a, b), x.rules(a, b));
+            Check.due(run + "rules" + name, m.rules(a, b), x.now().rules(a, b));
             Check.due(run + "common" + name, Check.outcome(() -> m.common(a, y)),
-                    Check.outcome(() -> x.common(a, y)));
-            Check.due(run + "inLoop" + name, m.has(a) && loops.get(a).contains(b), x.inLoop(a, b));
+                    Check.outcome(() -> x.now().common(a, y)));
+            Check.due(run + "inLoop" + name, m.has(a) && loops.get(a).contains(b), x.now().inLoop(a, b));
         }
     }
 
-    private static void compareEdge(String run, int b, BlockRuler x, Model m) {
+    private static void compareEdge(String run, int b, Run x, Model m) {
         List<Integer> edge = m.edge(b);
         for (int i = -1; i <= edge.size() + 1; i++) {
             int want = i >= 0 && i < edge.size() ? edge.get(i) : -1;
-            Check.due(run + "edge(" + b + ", " + i + ")", want, x.edge(b, i));
+            Check.due(run + "edge(" + b + ", " + i + ")", want, x.now().edge(b, i));
         }
     }
 
     /** Answers the block's depth. */
     private static int compareLooks(
-            String run, int b, List<List<Integer>> loops, BlockRuler x, Model m) {
+            String run, int b, List<List<Integer>> loops, Run x, Model m) {
         int[] looks = new int[7];
         int depth = 0;
         if (m.has(b)) {
@@ -344,7 +399,7 @@ public final class OracleTest {
             Arrays.fill(looks, -1);
         }
         for (int what = 0; what < looks.length; what++) {
-            Check.due(run + "look(" + b + ", " + what + ")", looks[what], x.look(b, what));
+            Check.due(run + "look(" + b + ", " + what + ")", looks[what], x.now().look(b, what));
         }
         return depth;
     }
